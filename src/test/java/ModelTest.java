@@ -40,6 +40,7 @@ public final class ModelTest {
     private void play() {
         typeList(80);
         step(3, 0, 0, 0);
+        step(7, run % 3, 0, 0);
         while (calls < CALLS) {
             int kind = below(100);
             if (kind < 4) {

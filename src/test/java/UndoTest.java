@@ -4,6 +4,7 @@ public final class UndoTest {
 
     public static void main(String[] args) {
         undoOfEachCall();
+        undoBackIntoAnEarlierGame();
         savedStates();
         whatSavesNothing();
         textIsNotRestored();
@@ -54,6 +55,28 @@ public final class UndoTest {
         CHECK.due("total(1)", x.total(1), 0);
         CHECK.due("guess(d) again", x.guess('d'), 1);
         CHECK.holds("pattern " + Check.pattern(x), Check.pattern(x).equals("cd"));
+    }
+
+    private static void undoBackIntoAnEarlierGame() {
+        CHECK.promise(29, "undo of the next game");
+        DodgingHangman x = Check.withWords("ab,cd,ce,xyz");
+        x.start(2, 9);
+        x.guess('q');
+        x.guess('c');
+        x.start(3, 2);
+        x.guess('x');
+        x.guess('z');
+        x.undo();
+        x.undo();
+        CHECK.due("undo()", x.undo(), 3);
+        CHECK.holds("guessed letters " + Check.guessed(x), Check.guessed(x).equals("qc"));
+        CHECK.holds("pattern " + Check.pattern(x), Check.pattern(x).equals("c."));
+        CHECK.holds("candidates " + Check.candidates(x), Check.candidates(x).equals("cd,ce"));
+        CHECK.due("lives()", x.lives(), 8);
+        CHECK.due("total(0)", x.total(0), 1);
+        CHECK.due("total(3)", x.total(3), 2);
+        CHECK.due("guess(c), guessed in this game", x.guess('c'), DodgingHangman.NONE);
+        CHECK.due("guess(x), not guessed in this game", x.guess('x'), 0);
     }
 
     private static void savedStates() {
