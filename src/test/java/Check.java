@@ -11,7 +11,11 @@ final class Check {
 
     /** Names the promise that the next checks are for. */
     void promise(int number, String what) {
-        part = "promise " + number + " (" + what + ")";
+        part("promise " + number + " (" + what + ")");
+    }
+
+    void part(String name) {
+        part = name;
     }
 
     void due(String call, long got, long want) {
