@@ -297,8 +297,10 @@ public final class DodgingHangman {
     }
 
     public long digest() {
-        long hash = hashOfList(131);
-        hash = hashOfGame(hash);
+        long hash = hashOfGame(hashOfList(131));
+        if (now.isRunning()) {
+            hash = mixed(mixed(hash, sureLetters()), bestGuess());
+        }
         for (int what = 0; what < TOTALS; what++) {
             hash = mixed(hash, total(what));
         }
@@ -331,7 +333,7 @@ public final class DodgingHangman {
         for (int i = 0; i < now.guessCount; i++) {
             hash = mixed(hash, guessAt(i));
         }
-        return now.isRunning() ? mixed(mixed(hash, sureLetters()), bestGuess()) : hash;
+        return hash;
     }
 
     private static long mixed(long hash, long value) {
@@ -352,7 +354,7 @@ public final class DodgingHangman {
 
     private int play(State state, int letter) {
         split.make(state, letter);
-        int best = split.ranked(0);
+        int best = split.best();
         int mask = split.maskOf(best);
         state.takeLetter(letter, mask, split.membersOf(best));
         return Integer.bitCount(mask);
@@ -365,7 +367,7 @@ public final class DodgingHangman {
         for (int letter = FIRST_LETTER; letter < FIRST_LETTER + LETTERS; letter++) {
             if (!state.wasGuessed(letter)) {
                 split.make(state, letter);
-                int family = split.ranked(0);
+                int family = split.best();
                 int size = split.sizeOf(family);
                 int places = Integer.bitCount(split.maskOf(family));
                 if (bestLetter == NONE || size < leastSize || (size == leastSize && places > mostPlaces)) {
@@ -804,7 +806,7 @@ public final class DodgingHangman {
         }
 
         int sizeOf(int family) {
-            return Integer.bitCount(membersOf(family));
+            return has(family) ? Integer.bitCount(members[family]) : 0;
         }
 
         int freshnessOf(int family) {
@@ -817,6 +819,17 @@ public final class DodgingHangman {
                 sum += sizeOf(family) * sizeOf(family);
             }
             return sum;
+        }
+
+        /** The family with the rank 0: guesses need no other, so one pass is enough. */
+        int best() {
+            int best = count > 0 ? 0 : NO_SUCH;
+            for (int family = 1; family < count; family++) {
+                if (isBetter(family, best)) {
+                    best = family;
+                }
+            }
+            return best;
         }
 
         /** Masks differ, so no two families share a rank. */

@@ -66,8 +66,10 @@ final class Check {
 
     static String wordAt(DodgingHangman x, int number) {
         StringBuilder word = new StringBuilder();
-        for (int place = 0; x.letterOf(number, place) >= 0; place++) {
-            word.append((char) x.letterOf(number, place));
+        int letter = x.letterOf(number, 0);
+        for (int place = 1; letter >= 0; place++) {
+            word.append((char) letter);
+            letter = x.letterOf(number, place);
         }
         return word.toString();
     }

@@ -10,7 +10,6 @@ public final class LanguageTest {
     private static final String FORBIDDEN_WORDS = "throw throws try catch finally synchronized assert protected "
             + "package import volatile transient native instanceof var equals hashCode toString Object Random Thread "
             + "float double";
-    private static final int LONGEST_METHOD = 60;
 
     public static void main(String[] args) throws IOException {
         String source = Files.readString(Path.of("src/main/java/DodgingHangman.java"));
@@ -24,7 +23,6 @@ public final class LanguageTest {
         CHECK.holds("signs from 1 to 127 alone", source.chars().allMatch(c -> c >= 1 && c <= 127));
         staticFieldsAreFinal(code);
         objectsAreMadeInFieldsAlone(code);
-        methodsAreShort(code);
         CHECK.end();
     }
 
@@ -47,19 +45,5 @@ public final class LanguageTest {
             }
         }
         CHECK.due("places where a method makes an object", made, 1);
-    }
-
-    private static void methodsAreShort(String code) {
-        String[] lines = code.split("\n");
-        int start = 0;
-        for (int i = 0; i < lines.length; i++) {
-            if (lines[i].matches(" {4}( {4})?[a-z].*\\) \\{")) {
-                start = i;
-            }
-            if (lines[i].matches(" {4}( {4})?\\}")) {
-                CHECK.holds("a short method: " + lines[start].trim(), i - start < LONGEST_METHOD || lines[start].isEmpty());
-                start = i;
-            }
-        }
     }
 }
